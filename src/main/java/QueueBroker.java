@@ -425,21 +425,17 @@ public final class QueueBroker {
         return found;
     }
 
+    // A pattern that is the key itself fits in a topic exchange too, so only the rest needs matching.
     private boolean isChosen(int e, int q, int key) {
+        int type = exchanges[e].type;
         for (int b = 0; b < bindings.size(); b++) {
             Binding binding = bindings.get(b);
-            if (binding.exchange == e && binding.queue == q && isTaken(exchanges[e].type, binding.pattern, key)) {
+            if (binding.exchange == e && binding.queue == q && (type == TYPE_TO_ALL || binding.pattern == key
+                    || (type == TYPE_TOPIC && isMatch(binding.pattern, key)))) {
                 return true;
             }
         }
         return false;
-    }
-
-    private static boolean isTaken(int type, int pattern, int key) {
-        if (type == TYPE_TO_ALL) {
-            return true;
-        }
-        return type == TYPE_DIRECT ? pattern == key : isMatch(pattern, key);
     }
 
     private int countChosen(int e, int key) {

@@ -81,13 +81,19 @@ public final class P07PublishTest {
         for (int q = 0; q < 6; q++) {
             check.bodies("once each", x, q, 1);
         }
+        x.exchange(2, 0, true);
+        for (int q = 0; q < 6; q++) {
+            x.bind(2, q, 0x1 + q);
+            x.publish(0, 2, 0x1 + q, 100 + q, 0);
+        }
+        check.letters("no dead exchange as yet", x, 0, 6);
         x.exchange(1, 1, true);
         x.drop(5);
         x.queue(5, 12, -1, true);
         x.bind(1, 5, 0);
-        x.publish(0, 0, 0x2, 2, 0);
-        check.bodies("three letters from queues 0, 1 and 2", x, 5, 1, 1, 1);
-        check.letters("of five", x, 3, 2);
+        check.due("chosen by one binding each", x.publish(0, 0, 0x2, 2, 0), 5);
+        check.bodies("letters from queues 0, 1 and 2", x, 5, 100, 101, 102);
+        check.letters("three of five", x, 3, 8);
     }
 
     private static void flags(Check check) {
