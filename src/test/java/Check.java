@@ -2,14 +2,30 @@ import java.util.function.IntSupplier;
 
 /** Compares answers with those that are due, and tells the wrong ones. */
 final class Check {
+    private int sentences = 0;
     private int asked = 0;
     private int wrong = 0;
+    private String sentence = "";
+
+    /** What follows tests this sentence of the document; wrong answers are told together with it. */
+    void sentence(String promise, String words) {
+        sentences++;
+        sentence = promise + ": \"" + words + "\": ";
+    }
 
     void due(String call, long got, long want) {
         asked++;
         if (got != want) {
             wrong++;
-            System.out.println(call + " answered " + got + ", due is " + want);
+            System.out.println(sentence + call + " answered " + got + ", due is " + want);
+        }
+    }
+
+    void same(String call, String got, String want) {
+        asked++;
+        if (!got.equals(want)) {
+            wrong++;
+            System.out.println(sentence + call + ": " + got + ", due is " + want);
         }
     }
 
@@ -20,7 +36,7 @@ final class Check {
         String after = shown(x);
         if (!before.equals(after)) {
             wrong++;
-            System.out.println(call + " changed " + before + " into " + after);
+            System.out.println(sentence + call + " changed " + before + " into " + after);
         }
     }
 
@@ -69,25 +85,26 @@ final class Check {
         }
     }
 
-    /** All that the getters show. */
+    /** All that the getters show, by as few calls as can be. */
     static String shown(QueueBroker x) {
+        int[] counts = {6, 6, 4, 4, 5, 1, 1, 4};
         StringBuilder text = new StringBuilder();
-        for (int what = 0; what <= 7; what++) {
-            for (int i = 0; i <= 5; i++) {
+        for (int what = 0; what < counts.length; what++) {
+            for (int i = 0; i < counts[what]; i++) {
                 text.append(x.count(what, i)).append(' ');
             }
         }
         for (int q = 0; q < 6; q++) {
-            for (int i = 0; i < x.count(0, q); i++) {
-                text.append("| ");
+            text.append("| ");
+            for (int i = 0; x.ready(q, i, 0) != QueueBroker.NONE; i++) {
                 for (int field = 0; field <= 4; field++) {
                     text.append(x.ready(q, i, field)).append(' ');
                 }
             }
         }
         for (int c = 0; c < 4; c++) {
-            for (int i = 0; i < x.count(2, c); i++) {
-                text.append("/ ");
+            text.append("/ ");
+            for (int i = 0; x.held(c, i, 0) != QueueBroker.NONE; i++) {
                 for (int field = 0; field <= 7; field++) {
                     text.append(x.held(c, i, field)).append(' ');
                 }
@@ -97,7 +114,8 @@ final class Check {
     }
 
     void end() {
-        System.out.println(asked + " answers looked at, " + wrong + " wrong");
+        String of = sentences == 0 ? "" : sentences + " sentences, ";
+        System.out.println(of + asked + " answers looked at, " + wrong + " wrong");
         if (wrong != 0 || asked == 0) {
             System.exit(1);
         }

@@ -4,7 +4,6 @@ public final class P02ExchangeTest {
         Check check = new Check();
         declares(check);
         declaredOtherwise(check);
-        wrongNumbers(check);
         check.end();
     }
 
@@ -32,20 +31,5 @@ public final class P02ExchangeTest {
         check.leaves(x, "a higher type", -3, () -> x.exchange(1, 2, true));
         check.leaves(x, "not durable", -3, () -> x.exchange(1, 1, false));
         check.due("as at first", x.exchange(1, 1, true), 0);
-    }
-
-    private static void wrongNumbers(Check check) {
-        QueueBroker x = new QueueBroker();
-        x.exchange(0, 0, true);
-        int[] exchanges = {-1, 5, Integer.MIN_VALUE, Integer.MAX_VALUE};
-        for (int e : exchanges) {
-            check.leaves(x, "exchange(" + e + ", 0, true)", -1, () -> x.exchange(e, 0, true));
-        }
-        int[] types = {-1, 3, Integer.MIN_VALUE, Integer.MAX_VALUE};
-        for (int type : types) {
-            check.leaves(x, "exchange(1, " + type + ", true)", -1, () -> x.exchange(1, type, true));
-            check.leaves(x, "exchange(0, " + type + ", true)", -1, () -> x.exchange(0, type, true));
-        }
-        check.due("exchange 1 is still free", x.exchange(1, 2, false), 0);
     }
 }

@@ -6,7 +6,6 @@ public final class P03QueueTest {
         declaredOtherwise(check);
         limitsHold(check);
         newOneIsEmpty(check);
-        wrongNumbers(check);
         check.end();
     }
 
@@ -56,24 +55,5 @@ public final class P03QueueTest {
         check.due("copies", x.count(0, 0), 0);
         check.due("consumers", x.count(1, 0), 0);
         check.due("bindings", x.count(4, 0), 0);
-    }
-
-    private static void wrongNumbers(Check check) {
-        QueueBroker x = new QueueBroker();
-        x.queue(0, 5, -1, true);
-        int[] queues = {-1, 6, Integer.MIN_VALUE, Integer.MAX_VALUE};
-        for (int q : queues) {
-            check.leaves(x, "queue(" + q + ", 1, 0, true)", -1, () -> x.queue(q, 1, 0, true));
-        }
-        int[] limits = {0, -1, 13, Integer.MIN_VALUE, Integer.MAX_VALUE};
-        for (int limit : limits) {
-            check.leaves(x, "queue(1, " + limit + ", 0, true)", -1, () -> x.queue(1, limit, 0, true));
-            check.leaves(x, "queue(0, " + limit + ", 0, true)", -1, () -> x.queue(0, limit, 0, true));
-        }
-        int[] dead = {-2, 5, Integer.MIN_VALUE, Integer.MAX_VALUE};
-        for (int e : dead) {
-            check.leaves(x, "queue(1, 1, " + e + ", true)", -1, () -> x.queue(1, 1, e, true));
-        }
-        check.due("queue 1 is still free", x.drop(1), -1);
     }
 }

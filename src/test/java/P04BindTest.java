@@ -8,7 +8,6 @@ public final class P04BindTest {
         thereAlready(check);
         noRoom(check);
         patterns(check);
-        wrongNumbers(check);
         check.end();
     }
 
@@ -68,18 +67,6 @@ public final class P04BindTest {
         for (int pattern : wrong) {
             QueueBroker x = twoAndTwo();
             check.leaves(x, "bind(0, 0, " + Integer.toHexString(pattern) + ")", REFUSED, () -> x.bind(0, 0, pattern));
-        }
-    }
-
-    private static void wrongNumbers(Check check) {
-        QueueBroker x = twoAndTwo();
-        int[] exchanges = {-1, 5, 1, Integer.MIN_VALUE, Integer.MAX_VALUE};
-        for (int e : exchanges) {
-            check.leaves(x, "bind(" + e + ", 0, 1)", REFUSED, () -> x.bind(e, 0, 1));
-        }
-        int[] queues = {-1, 6, 1, Integer.MIN_VALUE, Integer.MAX_VALUE};
-        for (int q : queues) {
-            check.leaves(x, "bind(0, " + q + ", 1)", REFUSED, () -> x.bind(0, q, 1));
         }
     }
 }

@@ -4,7 +4,6 @@ public final class P05UnbindTest {
         Check check = new Check();
         takesAway(check);
         notThere(check);
-        wrongNumbers(check);
         check.end();
     }
 
@@ -42,21 +41,5 @@ public final class P05UnbindTest {
         check.leaves(x, "another exchange", -3, () -> x.unbind(1, 0, 2));
         x.unbind(1, 0, 1);
         check.leaves(x, "a second time", -3, () -> x.unbind(1, 0, 1));
-    }
-
-    private static void wrongNumbers(Check check) {
-        QueueBroker x = bound();
-        int[] exchanges = {-1, 5, 2, Integer.MIN_VALUE, Integer.MAX_VALUE};
-        for (int e : exchanges) {
-            check.leaves(x, "unbind(" + e + ", 0, 1)", -1, () -> x.unbind(e, 0, 1));
-        }
-        int[] queues = {-1, 6, 2, Integer.MIN_VALUE, Integer.MAX_VALUE};
-        for (int q : queues) {
-            check.leaves(x, "unbind(0, " + q + ", 1)", -1, () -> x.unbind(0, q, 1));
-        }
-        int[] patterns = {0x10, 0x101, 0x80000000};
-        for (int pattern : patterns) {
-            check.leaves(x, "unbind(0, 0, " + pattern + ")", -1, () -> x.unbind(0, 0, pattern));
-        }
     }
 }

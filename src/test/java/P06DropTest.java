@@ -5,7 +5,6 @@ public final class P06DropTest {
         allOfItGoes(check);
         heldCopiesGo(check);
         deedsLoseTheirCopies(check);
-        wrongNumbers(check);
         check.end();
     }
 
@@ -65,14 +64,5 @@ public final class P06DropTest {
         check.due("commit", x.commit(1), 1);
         check.bodies("the new queue", x, 0);
         check.bodies("the other queue", x, 1, 1, 2);
-    }
-
-    private static void wrongNumbers(Check check) {
-        QueueBroker x = Check.toAll(2, 4, 0);
-        Check.publish(x, 1, 2);
-        int[] queues = {-1, 6, 2, 5, Integer.MIN_VALUE, Integer.MAX_VALUE};
-        for (int q : queues) {
-            check.leaves(x, "drop(" + q + ")", -1, () -> x.drop(q));
-        }
     }
 }

@@ -8,7 +8,6 @@ public final class P07PublishTest {
         onceEachInRisingOrder(check);
         flags(check);
         inATransaction(check);
-        wrongNumbers(check);
         check.end();
     }
 
@@ -122,25 +121,5 @@ public final class P07PublishTest {
         check.due("nothing is there", x.count(0, 3), 0);
         check.due("another channel is not held up", x.publish(0, 2, 0x1, 6, 0), 1);
         check.bodies("from the other channel", x, 3, 6);
-    }
-
-    private static void wrongNumbers(Check check) {
-        QueueBroker x = ofType(1, 0);
-        int[] channels = {-1, 4, Integer.MIN_VALUE, Integer.MAX_VALUE};
-        for (int c : channels) {
-            check.leaves(x, "channel " + c, -1, () -> x.publish(c, 2, 1, 1, 0));
-        }
-        int[] exchanges = {-1, 5, 0, 3, Integer.MIN_VALUE, Integer.MAX_VALUE};
-        for (int e : exchanges) {
-            check.leaves(x, "exchange " + e, -1, () -> x.publish(0, e, 1, 1, 0));
-        }
-        int[] keys = {0xe, 0xf, 0x1e, 0xf1, 0x10, 0x102, 0xe1111111, 0xffffffff, 0x80000000, 0x1111111f};
-        for (int key : keys) {
-            check.leaves(x, "key " + Integer.toHexString(key), -1, () -> x.publish(0, 2, key, 1, 0));
-        }
-        int[] flags = {-1, 4, Integer.MIN_VALUE, Integer.MAX_VALUE};
-        for (int f : flags) {
-            check.leaves(x, "flags " + f, -1, () -> x.publish(0, 2, 1, 1, f));
-        }
     }
 }

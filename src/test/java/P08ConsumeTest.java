@@ -5,7 +5,6 @@ public final class P08ConsumeTest {
         atTheEndOfTheRow(check);
         thereAlready(check);
         automaticOrNot(check);
-        wrongNumbers(check);
         check.end();
     }
 
@@ -45,17 +44,5 @@ public final class P08ConsumeTest {
         Check.deliver(x, 0, 2);
         check.due("held by the automatic one", x.count(2, 0), 0);
         check.due("held by the other", x.count(2, 1), 1);
-    }
-
-    private static void wrongNumbers(Check check) {
-        QueueBroker x = Check.toAll(1, 12, -1);
-        int[] channels = {-1, 4, Integer.MIN_VALUE, Integer.MAX_VALUE};
-        for (int c : channels) {
-            check.leaves(x, "channel " + c, -1, () -> x.consume(c, 0, false));
-        }
-        int[] queues = {-1, 6, 1, 5, Integer.MIN_VALUE, Integer.MAX_VALUE};
-        for (int q : queues) {
-            check.leaves(x, "queue " + q, -1, () -> x.consume(0, q, true));
-        }
     }
 }

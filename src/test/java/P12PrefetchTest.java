@@ -5,7 +5,6 @@ public final class P12PrefetchTest {
         setsTheLimit(check);
         twelveAtFirst(check);
         belowWhatIsHeld(check);
-        wrongNumbers(check);
         check.end();
     }
 
@@ -48,22 +47,5 @@ public final class P12PrefetchTest {
         check.leaves(x, "still no room", -6, () -> x.deliver(0));
         x.settle(0, 2, false, 0);
         check.due("room", x.deliver(0), 0);
-    }
-
-    private static void wrongNumbers(Check check) {
-        QueueBroker x = Check.toAll(1, 12, -1);
-        x.consume(0, 0, false);
-        x.prefetch(0, 1);
-        Check.publish(x, 1, 3);
-        int[] channels = {-1, 4, Integer.MIN_VALUE, Integer.MAX_VALUE};
-        for (int c : channels) {
-            check.leaves(x, "channel " + c, -1, () -> x.prefetch(c, 5));
-        }
-        int[] numbers = {0, -1, 13, Integer.MIN_VALUE, Integer.MAX_VALUE};
-        for (int n : numbers) {
-            check.leaves(x, "prefetch(0, " + n + ")", -1, () -> x.prefetch(0, n));
-        }
-        check.due("it is as before", x.deliver(0), 0);
-        check.leaves(x, "it is as before", -6, () -> x.deliver(0));
     }
 }

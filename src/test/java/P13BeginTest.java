@@ -20,10 +20,6 @@ public final class P13BeginTest {
         check.due("begin(2) after a close", x.begin(2), 0);
         check.due("no deeds", x.count(3, 2), 0);
         heldBefore(check);
-        int[] channels = {-1, 4, Integer.MIN_VALUE, Integer.MAX_VALUE};
-        for (int c : channels) {
-            check.leaves(x, "begin(" + c + ")", -1, () -> x.begin(c));
-        }
         check.end();
     }
 

@@ -10,7 +10,6 @@ public final class P14CommitTest {
         bindingsOfTheMoment(check);
         goneMeanwhile(check);
         modeStays(check);
-        wrongNumbers(check);
         check.end();
     }
 
@@ -132,16 +131,6 @@ public final class P14CommitTest {
         check.bodies("each deed is done once", x, 0, 5, 6);
         for (int n = 0; n < 4; n++) {
             check.due("room for four deeds again", x.publish(1, 0, 0x1, 6, 0), 100);
-        }
-    }
-
-    private static void wrongNumbers(Check check) {
-        QueueBroker x = holding(1, 12, -1);
-        x.settle(1, 1, false, 0);
-        check.leaves(x, "not in a transaction", -3, () -> x.commit(0));
-        int[] channels = {-1, 4, Integer.MIN_VALUE, Integer.MAX_VALUE};
-        for (int c : channels) {
-            check.leaves(x, "commit(" + c + ")", -1, () -> x.commit(c));
         }
     }
 }

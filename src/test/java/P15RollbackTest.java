@@ -3,7 +3,6 @@ public final class P15RollbackTest {
     public static void main(String[] args) {
         Check check = new Check();
         forgetsTheDeeds(check);
-        wrongNumbers(check);
         check.end();
     }
 
@@ -30,17 +29,5 @@ public final class P15RollbackTest {
         check.due("the mode stays", x.commit(1), 1);
         check.bodies("both are back", x, 0, 1, 2, 3);
         check.leaves(x, "begin", -3, () -> x.begin(1));
-    }
-
-    private static void wrongNumbers(Check check) {
-        QueueBroker x = Check.toAll(1, 12, 0);
-        x.begin(1);
-        x.publish(1, 0, 0x1, 9, 0);
-        check.leaves(x, "not in a transaction", -3, () -> x.rollback(0));
-        int[] channels = {-1, 4, Integer.MIN_VALUE, Integer.MAX_VALUE};
-        for (int c : channels) {
-            check.leaves(x, "rollback(" + c + ")", -1, () -> x.rollback(c));
-        }
-        check.due("the other one", x.rollback(1), 1);
     }
 }

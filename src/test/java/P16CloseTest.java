@@ -5,7 +5,6 @@ public final class P16CloseTest {
         copiesComeBack(check);
         asAtTheBeginning(check);
         deedsAreForgotten(check);
-        wrongNumbers(check);
         check.end();
     }
 
@@ -67,16 +66,5 @@ public final class P16CloseTest {
         x.deliver(0);
         check.due("no mark", x.held(1, 0, 7), 0);
         check.due("it can be settled", x.settle(1, 1, false, 0), 100);
-    }
-
-    private static void wrongNumbers(Check check) {
-        QueueBroker x = Check.toAll(1, 12, 0);
-        x.consume(0, 0, false);
-        Check.publish(x, 1, 2);
-        x.deliver(0);
-        int[] channels = {-1, 4, Integer.MIN_VALUE, Integer.MAX_VALUE};
-        for (int c : channels) {
-            check.leaves(x, "close(" + c + ")", -1, () -> x.close(c));
-        }
     }
 }

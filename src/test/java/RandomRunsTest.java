@@ -1,8 +1,8 @@
 import java.util.Random;
 
-/** Long runs of chosen-at-random calls, each with a fixed seed, compared call by call with the model. */
+/** Runs of calls chosen at random, each with a fixed seed, compared call by call with the model. */
 public final class RandomRunsTest {
-    private static final int RUNS = 1500;
+    private static final int RUNS = 12000;
     private static final int CALLS = 512;
 
     private final Random random;
@@ -38,45 +38,45 @@ public final class RandomRunsTest {
     }
 
     private void run(Check check, int seed) {
-        for (int n = 1; n <= CALLS; n++) {
+        // Runs end after few or many calls; what is left of the 512 is used to look at the state.
+        int length = 20 + seed * 37 % (CALLS - 130);
+        for (int n = 1; n <= length; n++) {
             next();
             check.due("run " + seed + ", call " + n + ": " + call, got, want);
             if (got != want) {
                 return;
             }
-            // The getters are looked at now and then, for looking at all of them takes long.
-            if (n % 16 == 0 && !sameState(check, "run " + seed + ", after call " + n + " " + call)) {
-                return;
+        }
+        compareState(check, "run " + seed + ", after call " + length + " " + call, CALLS - length);
+    }
+
+    private void compareState(Check check, String when, int left) {
+        int[] counts = {6, 6, 4, 4, 5, 1, 1, 4};
+        for (int what = 0; what < counts.length; what++) {
+            for (int i = 0; i < counts[what]; i++) {
+                left--;
+                check.due(when + ": count(" + what + ", " + i + ")", x.count(what, i), y.count(what, i));
+            }
+        }
+        // Fields outermost: if the calls don't do for all, each copy has at least been looked at once.
+        for (int field = 0; field <= 7; field++) {
+            for (int n = 0; n < 10; n++) {
+                int copies = n < 6 ? y.count(0, n) : y.count(2, n - 6);
+                for (int i = 0; i <= copies && left > 0; i++) {
+                    left--;
+                    compareField(check, when, n, i, field);
+                }
             }
         }
     }
 
-    private boolean sameState(Check check, String when) {
-        for (int what = 0; what <= 7; what++) {
-            for (int i = 0; i <= 5; i++) {
-                check.due(when + ": count(" + what + ", " + i + ")", x.count(what, i), y.count(what, i));
-                if (x.count(what, i) != y.count(what, i)) {
-                    return false;
-                }
-            }
+    private void compareField(Check check, String when, int n, int i, int field) {
+        if (n < 6) {
+            check.due(when + ": ready(" + n + ", " + i + ", " + field + ")", x.ready(n, i, field), y.ready(n, i, field));
+        } else {
+            check.due(when + ": held(" + (n - 6) + ", " + i + ", " + field + ")", x.held(n - 6, i, field),
+                    y.held(n - 6, i, field));
         }
-        for (int n = 0; n < 6; n++) {
-            for (int i = 0; i <= x.count(0, n); i++) {
-                for (int field = 0; field <= 5; field++) {
-                    check.due(when + ": ready(" + n + ", " + i + ", " + field + ")", x.ready(n, i, field),
-                            y.ready(n, i, field));
-                }
-            }
-        }
-        for (int n = 0; n < 4; n++) {
-            for (int i = 0; i <= x.count(2, n); i++) {
-                for (int field = 0; field <= 8; field++) {
-                    check.due(when + ": held(" + n + ", " + i + ", " + field + ")", x.held(n, i, field),
-                            y.held(n, i, field));
-                }
-            }
-        }
-        return true;
     }
 
     private int upTo(int least, int most) {
