@@ -380,10 +380,9 @@ public final class QueueBroker {
     private static boolean isMatch(int pattern, int key) {
         int items = countItems(pattern);
         int words = countItems(key);
-        int possible = (1 << (words + 1)) - 1;
         int reached = 1;
         for (int i = 0; i < items; i++) {
-            reached = possible & reachFurther(reached, itemAt(pattern, i), key);
+            reached = reachFurther(reached, itemAt(pattern, i), key);
         }
         return ((reached >> words) & 1) != 0;
     }

@@ -3,9 +3,10 @@
  *
  * Exchanges 0 (direct, durable), 1 (to all), 2 (topic, durable) are declared, 3 and 4 not. Queues 0 (limit 3, dead 1,
  * durable), 1 (limit 12, dead 2), 2 (limit 2, no dead one, durable) and 3 (limit 1, dead 3, durable, without a copy)
- * are declared, 4 and 5 not. Channel 0 is direct and holds tag 2; channel 1 has 2 deeds and holds tags 1 (which a deed
- * is to settle) and 2; channel 2 is direct, has the prefetch 1 and holds tag 1; channel 3 has 4 deeds and holds tags 1
- * (which a deed is to settle) and 2. Queue 2 has copies, but its one consumer isn't able.
+ * are declared, 4 and 5 not. Channel 0 is direct, has the prefetch 1 and holds tag 2; channel 1 has 2 deeds and holds
+ * tags 1 (which a deed is to settle) and 2; channel 2 is direct, has the prefetch 1 and holds tag 1; channel 3 has 4 deeds
+ * and holds tags 1 (which a deed is to settle) and 2. Queue 2 has copies, but neither of its two consumers is able; queue
+ * 3 has two consumers.
  */
 final class Busy {
     private Busy() {
@@ -53,7 +54,10 @@ final class Busy {
         x.consume(1, 1, false);
         x.consume(3, 1, false);
         x.consume(2, 2, false);
+        x.consume(0, 2, false);
         x.consume(0, 3, false);
+        x.consume(1, 3, false);
+        x.prefetch(0, 1);
         x.prefetch(1, 5);
         x.prefetch(2, 1);
     }

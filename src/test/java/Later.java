@@ -183,10 +183,14 @@ final class Later {
         return text.append(state(x)).toString();
     }
 
-    // Rows of queues without a copy show their order only once copies are put.
+    // Rows show their order only where there are copies and room for them.
     private static String deliveriesOfMore(QueueBroker x) {
-        x.close(0);
-        feedAll(x, 0, 5);
+        for (int c = 0; c < 4; c++) {
+            x.prefetch(c, 12);
+        }
+        for (int c = 0; c < 4; c++) {
+            feedAll(x, c, 3);
+        }
         return deliveries(x);
     }
 

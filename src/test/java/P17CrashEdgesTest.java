@@ -113,6 +113,37 @@ public final class P17CrashEdgesTest {
         check.due("the old one chooses the old queue alone", x.publish(0, 0, 0x1, 1, 2), 1);
         check.due("those that stay can be taken away", x.unbind(0, 0, 0x2), 0);
         check.due("the others are gone", x.unbind(0, 1, 0x2), -3);
+        for (int gone = 0; gone <= 4; gone++) {
+            bindingsOf(check, gone, -1);
+        }
+        for (int gone = 0; gone <= 5; gone++) {
+            bindingsOf(check, -1, gone);
+        }
+    }
+
+    /** Of 24 bindings, the first to the last, those of an exchange or queue that isn't durable go and no other. */
+    private static void bindingsOf(Check check, int goneExchange, int goneQueue) {
+        QueueBroker x = new QueueBroker();
+        for (int e = 0; e <= 4; e++) {
+            x.exchange(e, 0, e != goneExchange);
+        }
+        for (int q = 0; q <= 5; q++) {
+            x.queue(q, 12, -1, q != goneQueue);
+        }
+        for (int n = 0; n < 24; n++) {
+            x.bind(n % 5, n % 6, 0x1);
+        }
+        x.crash();
+        x.exchange(Math.max(goneExchange, 0), 0, goneExchange < 0);
+        x.queue(Math.max(goneQueue, 0), 12, -1, goneQueue < 0);
+        for (int n = 0; n < 24; n++) {
+            boolean gone = n % 5 == goneExchange || n % 6 == goneQueue;
+            check.due("binding " + n + " without exchange " + goneExchange + ", queue " + goneQueue,
+                    x.unbind(n % 5, n % 6, 0x1), gone ? -3 : 0);
+        }
+        for (int e = 0; e <= 4; e++) {
+            check.due("no other is there", x.count(4, e), 0);
+        }
     }
 
     private static void persistentStay(Check check) {

@@ -11,6 +11,7 @@ public final class TermsChannelsTest {
         tagsAreOfEachChannel(check);
         rowInOrder(check);
         ableIfItHoldsFewer(check);
+        copiesOfADeedAreHeld(check);
         ableIfAutomatic(check);
         accept(check);
         returnAtItsOldPlace(check);
@@ -152,6 +153,22 @@ public final class TermsChannelsTest {
                 x.prefetch(0, n - 1);
                 check.due("holds more than its prefetch", x.deliver(0), -6);
             }
+        }
+    }
+
+    private static void copiesOfADeedAreHeld(Check check) {
+        check.sentence(TERMS, "its channel HOLDS fewer copies than its PREFETCH: those that a DEED is to settle are held");
+        for (int how = 0; how <= 2; how++) {
+            QueueBroker x = Check.toAll(1, 12, -1);
+            x.consume(0, 0, false);
+            x.prefetch(0, 3);
+            Check.publish(x, 1, 6);
+            Check.deliver(x, 0, 3);
+            x.begin(0);
+            check.due("a deed for all", x.settle(0, 0, true, how), 100);
+            check.due("no room before the commit", x.deliver(0), -6);
+            x.commit(0);
+            check.due("room after it", x.deliver(0), 0);
         }
     }
 
