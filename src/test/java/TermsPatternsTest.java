@@ -16,6 +16,8 @@ public final class TermsPatternsTest {
         anyNumberForEachMany(check);
         alsoNoneForEachMany(check);
         allShortPatternsAndKeys(check);
+        longKeys(check);
+        longPatterns(check);
         eightItems(check);
         check.end();
     }
@@ -173,15 +175,40 @@ public final class TermsPatternsTest {
 
     private static void allShortPatternsAndKeys(Check check) {
         check.sentence(TERMS, "A PATTERN MATCHES a KEY if the KEY comes out of it");
-        List<Integer> keys = allOf(new int[] {1, 2}, 4);
-        for (int pattern : allOf(new int[] {1, 2, 14, 15}, 4)) {
+        compare(check, allOf(new int[] {1, 2, 14, 15}, 4), allOf(new int[] {1, 2}, 4));
+    }
+
+    private static void longKeys(Check check) {
+        check.sentence(TERMS, "A PATTERN MATCHES a KEY of up to eight words");
+        List<Integer> keys = allOf(new int[] {1, 2}, 8);
+        compare(check, allOf(new int[] {1, 2, 14, 15}, 4), keys.subList(keys.size() - 384, keys.size()));
+    }
+
+    private static void longPatterns(Check check) {
+        check.sentence(TERMS, "A PATTERN of up to eight items MATCHES a KEY");
+        List<Integer> all = allOf(new int[] {1, 2, 14, 15}, 8);
+        List<Integer> some = new ArrayList<>();
+        for (int i = 341; i < all.size(); i += 97) {
+            some.add(all.get(i));
+        }
+        List<Integer> keys = allOf(new int[] {1, 2}, 8);
+        compare(check, some, keys.subList(keys.size() - 384, keys.size()));
+    }
+
+    /** What a regular expression of the same meaning says is due. */
+    private static void compare(Check check, List<Integer> patterns, List<Integer> keys) {
+        for (int pattern : patterns) {
             QueueBroker x = topic(pattern);
-            Pattern same = Pattern.compile(hex(pattern).replace("0x0", "0x").replace("e", ".").replace("f", ".*"));
+            Pattern same = Pattern.compile(items(pattern).replace("e", ".").replace("f", ".*"));
             for (int key : keys) {
-                boolean due = same.matcher(hex(key).replace("0x0", "0x")).matches();
+                boolean due = same.matcher(items(key)).matches();
                 check.due(hex(pattern) + " for " + hex(key), x.publish(0, 0, key, 1, 2), due ? 1 : -4);
             }
         }
+    }
+
+    private static String items(int pattern) {
+        return pattern == 0 ? "" : Integer.toHexString(pattern);
     }
 
     private static List<Integer> allOf(int[] items, int longest) {
