@@ -167,7 +167,8 @@ final class Later {
         StringBuilder text = new StringBuilder("publish:");
         for (int c = 0; c < 4; c++) {
             for (int e = 0; e < 5; e++) {
-                text.append(' ').append(x.publish(c, e, 0x12, 60 + c, 2)).append(' ').append(x.publish(c, e, 0x1, 70 + c, 0));
+                text.append(' ').append(x.publish(c, e, 0x12, 60 + c, 2));
+                text.append(' ').append(x.publish(c, e, 0x1, 70 + c, 0));
             }
         }
         return text.append(state(x)).toString();
